@@ -30,8 +30,8 @@ public final class WordSquares {
     private final Board table = new Board();
     private final int[] best = new int[KINDS];
 
-    // What is found from the list, the weights and the board is kept until one of them changes.
-    private boolean found = false;
+    // The squares are found again at once when the list changes; what follows from the weights and from the board is
+    // found when it is asked for, and kept until one of them changes.
     private boolean compared = false;
     private boolean looked = false;
 
@@ -81,7 +81,7 @@ public final class WordSquares {
         }
         text.clear();
         additions++;
-        forgetAll();
+        renew();
         return many;
     }
 
@@ -91,7 +91,7 @@ public final class WordSquares {
         }
         list.delete(word);
         removals++;
-        forgetAll();
+        renew();
         return list.size();
     }
 
@@ -127,9 +127,9 @@ public final class WordSquares {
         switch (what) {
             case 0: return list.weightOf(word);
             case 1: return list.find(list.reversalOf(word));
-            case 2: return results().timesInRows(word);
-            case 3: return results().timesInColumns(word);
-            case 4: return results().timesInSymmetric(word);
+            case 2: return finder.timesInRows(word);
+            case 3: return finder.timesInColumns(word);
+            case 4: return finder.timesInSymmetric(word);
             default: return OUTSIDE;
         }
     }
@@ -155,14 +155,14 @@ public final class WordSquares {
         if (!isKind(kind)) {
             return OUTSIDE;
         }
-        return results().ofKind(kind).size();
+        return finder.ofKind(kind).size();
     }
 
     public int row(int kind, int square, int row) {
         if (!isKind(kind)) {
             return OUTSIDE;
         }
-        SquareList chosen = results().ofKind(kind);
+        SquareList chosen = finder.ofKind(kind);
         if (!chosen.has(square) || !list.hasPlace(row)) {
             return UNKNOWN;
         }
@@ -170,7 +170,7 @@ public final class WordSquares {
     }
 
     public int turned(int square) {
-        SquareList all = results().ofKind(0);
+        SquareList all = finder.ofKind(0);
         if (!all.has(square)) {
             return UNKNOWN;
         }
@@ -183,7 +183,7 @@ public final class WordSquares {
         }
         if (!compared) {
             for (int k = 0; k < KINDS; k++) {
-                best[k] = greatestOf(results().ofKind(k));
+                best[k] = greatestOf(finder.ofKind(k));
             }
             compared = true;
         }
@@ -191,7 +191,7 @@ public final class WordSquares {
     }
 
     public int heavy(int square) {
-        SquareList all = results().ofKind(0);
+        SquareList all = finder.ofKind(0);
         if (!all.has(square)) {
             return UNKNOWN;
         }
@@ -257,13 +257,12 @@ public final class WordSquares {
         if (list.size() == 0) {
             return STATE;
         }
-        Finder done = results();
         switch (what) {
-            case 0: return done.plainVisits();
-            case 1: return done.plainDead();
-            case 2: return done.memoryVisits();
-            case 3: return done.memoryCuts();
-            default: return done.memorySize();
+            case 0: return finder.plainVisits();
+            case 1: return finder.plainDead();
+            case 2: return finder.memoryVisits();
+            case 3: return finder.memoryCuts();
+            default: return finder.memorySize();
         }
     }
 
@@ -354,24 +353,16 @@ public final class WordSquares {
         return (packed >> WORD_BITS * (length - 1 - place)) & WORD_MASK;
     }
 
-    private void forgetAll() {
+    private void renew() {
+        finder.run();
         table.clear();
-        found = false;
         compared = false;
         looked = false;
     }
 
-    private Finder results() {
-        if (!found) {
-            finder.run();
-            found = true;
-        }
-        return finder;
-    }
-
     private Board lookedBoard() {
         if (!looked) {
-            table.look(results().ofKind(0), list.length());
+            table.look(finder.ofKind(0), list.length());
             looked = true;
         }
         return table;
@@ -593,7 +584,8 @@ public final class WordSquares {
         }
 
         boolean samePrefix(int one, int other, int many) {
-            return prefixOf(one, many) == prefixOf(other, many);
+            int difference = codes[one & WORD_MASK] ^ codes[other & WORD_MASK];
+            return difference >> LETTER_BITS * (length - many) == 0;
         }
 
         int reversalOf(int number) {
