@@ -679,6 +679,18 @@ public final class BoundaryTests {
             due("squares(" + kind + ") of aaa", with("aaa").squares(kind), ofOne[kind]);
         }
 
+        // counted by trying all 12 to the power of 4 ways to choose the rows
+        int[] ofTwelve = {9072, 360, 384};
+        WordSquares twelve = with("aaaa,aaab,aaba,aabb,abaa,abab,abba,abbb,baaa,baab,baba,babb");
+        for (int kind = 0; kind <= 2; kind++) {
+            due("squares(" + kind + ") of 12 words with many", twelve.squares(kind), ofTwelve[kind]);
+        }
+        int[] lastRows = {11, 4, 11, 11};
+        for (int r = 0; r <= 3; r++) {
+            due("row(0, last, " + r + ") of many", twelve.row(0, ofTwelve[0] - 1, r), lastRows[r]);
+        }
+        due("turned(turned(last)) of many", twelve.turned(twelve.turned(ofTwelve[0] - 1)), ofTwelve[0] - 1);
+
         says(12, "OUTSIDE if kind is out of range");
         for (int kind : new int[] {-1, 3, LEAST, MOST}) {
             due("squares(" + kind + ")", with(FOUR).squares(kind), OUTSIDE);
@@ -1038,15 +1050,17 @@ public final class BoundaryTests {
         }
 
         says(5, "Adds the words of the text to the list");
-        for (String list : new String[] {"aa", "ab", "in,to,it,no", "bbbc", "aba,bba", dead}) {
-            WordSquares x = with(many);
-            x.put(0, 8);
-            answers(x);
-            for (int left = 9; left > 0; left--) {
-                x.strike(0);
+        for (String first : new String[] {many, dead}) {
+            for (String list : new String[] {"aa", "ab", FOUR, "bbbc", "aba,bba", dead}) {
+                WordSquares x = with(first);
+                x.put(0, 2);
+                answers(x);
+                for (int left = x.count(0); left > 0; left--) {
+                    x.strike(0);
+                }
+                add2(x, list);
+                due("all is as if " + list + " had come before " + first, answers(x).equals(answers(with(list))) ? 1 : 0, 1);
             }
-            add2(x, list);
-            due("all is as if " + list + " had come first", answers(x).equals(answers(with(list))) ? 1 : 0, 1);
         }
         WordSquares x = with("in,no");
         x.put(0, 1);
