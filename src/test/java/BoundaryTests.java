@@ -1,6 +1,8 @@
 import java.math.BigInteger;
 import java.util.ArrayList;
 import java.util.List;
+import java.util.Set;
+import java.util.TreeSet;
 
 /**
  * For each sentence of the document that names a boundary case, told before its checks: the answers just inside the
@@ -18,7 +20,7 @@ public final class BoundaryTests {
     private static final String THREE = "ab,ba,cc";
 
     private static int wrong = 0;
-    private static int sentences = 0;
+    private static final Set<String> SENTENCES = new TreeSet<>();
     private static int checks = 1;
     private static int promise = 0;
     private static String sentence = "";
@@ -26,7 +28,7 @@ public final class BoundaryTests {
     /** The sentence that the next checks are for; promise 0 is the section 'Description'. */
     private static void says(int number, String words) {
         closeSentence();
-        sentences++;
+        SENTENCES.add(number + " " + words);
         checks = 0;
         promise = number;
         sentence = words;
@@ -1150,7 +1152,7 @@ public final class BoundaryTests {
         anotherList();
         digest();
         closeSentence();
-        System.out.println(sentences + " sentences, " + wrong + " faults");
+        System.out.println(SENTENCES.size() + " sentences, " + wrong + " faults");
         if (wrong != 0) {
             System.exit(1);
         }
