@@ -929,6 +929,11 @@ public final class BoundaryTests {
         searchIs("aabb,abbb,bbab", 8, 8, 8, 1, 7);
         searchIs("aabc,bbaa,cbaa", 6, 6, 5, 1, 4);
         searchIs("abb,bba,bbc,bca,cbb", 14, 4, 13, 1, 2);
+        // long lists with many dead states, some with the highest words in all columns: none is taken for another
+        searchIs("acef,bbfe,bcec,bdee,beec,dbbb,eadd,eefc,fbcd,feab,fedd", 11, 11, 11, 1, 10);
+        searchIs("aaab,aabb,abab,abba,abbb,acbc,babb,bbac,bcbb,cacc,cbab,ccba", 289, 157, 288, 28, 128);
+        searchIs("abaa,abae,adec,aeea,babb,bbad,beed,ccba,cedc,dcad,dddc,eeee", 42, 24, 42, 0, 24);
+        searchIs("aaaa,aaba,aabb,abaa,abab,abba,abbb,baaa,baab,bbaa,bbab,bbbb", 8521, 0, 8521, 0, 0);
 
         says(23, "OUTSIDE if what is out of range; STATE if the list is empty");
         for (int what : new int[] {-1, 5, LEAST, MOST}) {
